@@ -590,10 +590,7 @@ public final class TorchPlate {
             item = token;
             told = 0;
             switch (token) {
-                case 'h':
-                    boolean again = heatTold;
-                    heatTold = true;
-                    return !again;
+                case 'h': return !heatTold;
                 case 'k': return into.corners < MOST_CORNERS;
                 case 'p': return into.parts < MOST_PARTS;
                 case 's': return true;
@@ -616,6 +613,7 @@ public final class TorchPlate {
                 return false;
             }
             into.heat = value;
+            heatTold = true;
             return true;
         }
 
@@ -648,14 +646,11 @@ public final class TorchPlate {
         }
 
         private boolean endsItem(Plate into) {
-            boolean whole;
-            switch (item) {
-                case 'h': whole = told == 1; break;
-                case 'p': whole = endsRing(into); break;
-                default: whole = told == 2; break;
+            boolean whole = item == 'p' ? endsRing(into) : told == (item == 'h' ? 1 : 2);
+            if (whole) {
+                item = NO_ITEM;
+                into.items++;
             }
-            item = NO_ITEM;
-            into.items++;
             return whole;
         }
 
