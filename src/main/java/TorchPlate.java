@@ -987,17 +987,18 @@ public final class TorchPlate {
 
         private void findTour(Plate plate, int torch) {
             int rest = (1 << pieces) - 1;
-            tourWay = leastTour(plate, torch, rest, 0);
+            tourWay = leastTour(plate, this, torch, rest, 0);
             int due = tourWay;
             int at = torch;
             for (int i = 0; i < pieces && due < NO_WAY; i++) {
                 for (int p = 0; p < pieces; p++) {
+                    int behind = rest & ~(1 << p);
                     if (mayBeNext(p, rest)
-                            && plate.way(at, start[p]) + leastTour(plate, start[p], rest & ~(1 << p), i + 1) == due) {
+                            && plate.way(at, start[p]) + leastTour(plate, this, start[p], behind, i + 1) == due) {
                         order[i] = p;
                         due -= plate.way(at, start[p]);
                         at = start[p];
-                        rest &= ~(1 << p);
+                        rest = behind;
                         break;
                     }
                 }
@@ -1008,14 +1009,15 @@ public final class TorchPlate {
             return has(rest, p) && (ahead[p] & rest) == 0;
         }
 
-        private int leastTour(Plate plate, int from, int rest, int depth) {
+        private static int leastTour(Plate plate, Survey of, int from, int rest, int depth) {
             if (rest == 0 || depth >= MOST_PIECES) {
                 return 0;
             }
             int least = NO_WAY;
-            for (int p = 0; p < pieces; p++) {
-                if (mayBeNext(p, rest)) {
-                    int sum = plate.way(from, start[p]) + leastTour(plate, start[p], rest & ~(1 << p), depth + 1);
+            for (int p = 0; p < of.pieces; p++) {
+                if (of.mayBeNext(p, rest)) {
+                    int behind = rest & ~(1 << p);
+                    int sum = plate.way(from, of.start[p]) + leastTour(plate, of, of.start[p], behind, depth + 1);
                     least = Math.min(least, sum);
                 }
             }
