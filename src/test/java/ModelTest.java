@@ -73,7 +73,11 @@ public final class ModelTest {
         }
 
         int near(int bound) {
-            return random.nextInt(20) == 0 ? random.nextInt(bound + 4) - 2 : random.nextInt(Math.max(1, bound));
+            switch (random.nextInt(60)) {
+                case 0: case 1: case 2: return random.nextInt(bound + 4) - 2;
+                case 3: return random.nextInt() >> random.nextInt(32);
+                default: return random.nextInt(Math.max(1, bound));
+            }
         }
 
         void step() {
