@@ -194,6 +194,46 @@ public final class ModelTest {
     /** Random texts. */
     private static final class Texts {
         static String sound(Random random) {
+            return random.nextInt(3) == 0 ? nested(random) : scattered(random);
+        }
+
+        /** Rings round the plate's middle, or beside it, with no corner in common: several pieces, some AHEAD. */
+        static String nested(Random random) {
+            List<String> items = new ArrayList<>();
+            Set<Integer> places = new HashSet<>();
+            int corners = 0;
+            int rings = 0;
+            for (int reach = 10; reach > 0 && corners <= 7; reach -= 1 + random.nextInt(4)) {
+                boolean ring = corners <= 6 && rings < 4 && random.nextInt(4) > 0;
+                int size = ring ? 3 + random.nextInt(Math.min(3, 7 - corners)) : 2;
+                int midX = random.nextInt(3) > 0 ? 10 : reach + random.nextInt(21 - 2 * reach);
+                int midY = random.nextInt(3) > 0 ? 10 : reach + random.nextInt(21 - 2 * reach);
+                double turn = random.nextDouble() * 2 * Math.PI;
+                StringBuilder group = new StringBuilder();
+                int begun = items.size();
+                for (int i = 0; i < size; i++) {
+                    double angle = turn + i * 2 * Math.PI / size;
+                    int x = midX + (int) Math.round(reach * Math.cos(angle));
+                    int y = midY + (int) Math.round(reach * Math.sin(angle));
+                    if (places.add(32 * x + y)) {
+                        items.add("k" + x + " " + y);
+                        group.append(group.length() == 0 ? "" : " ").append(corners);
+                        corners++;
+                    }
+                }
+                if (items.size() - begun == size) {
+                    items.add((ring ? "p" : "s") + group);
+                    rings += ring ? 1 : 0;
+                }
+            }
+            if (random.nextInt(3) == 0 && corners > 1) {
+                items.add("s0 " + (1 + random.nextInt(corners - 1)));
+            }
+            items.add(0, "h" + random.nextInt(21));
+            return joined(items);
+        }
+
+        static String scattered(Random random) {
             int size = random.nextBoolean() ? 21 : 3 + random.nextInt(6);
             int corners = 1 + random.nextInt(9);
             int seams = random.nextInt(12);
@@ -218,6 +258,10 @@ public final class ModelTest {
             if (random.nextInt(4) > 0) {
                 items.add(random.nextInt(items.size() + 1), "h" + random.nextInt(21));
             }
+            return joined(items);
+        }
+
+        static String joined(List<String> items) {
             StringBuilder text = new StringBuilder();
             for (String item : items) {
                 if (text.length() + item.length() + 1 <= 110) {

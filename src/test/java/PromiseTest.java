@@ -12,8 +12,11 @@ public final class PromiseTest {
     private static final String PATH = "k0 0;k1 0;k2 0;k3 0;k4 0;s0 1;s1 2;s2 3;s3 4;";
     private static int passed = 0;
     private static int failed = 0;
+    private static final int PROMISES = 22;
+    private static final int[] looks = new int[PROMISES + 1];
 
     private static void due(int promise, String call, int got, int want) {
+        looks[promise]++;
         if (got == want) {
             passed++;
         } else {
@@ -85,6 +88,12 @@ public final class PromiseTest {
         asking();
         images();
         counting();
+        for (int promise = 1; promise <= PROMISES; promise++) {
+            if (looks[promise] == 0) {
+                failed++;
+                System.out.println("promise " + promise + " was not looked at");
+            }
+        }
         System.out.println("promises: " + passed + " answers as due, " + failed + " not");
         if (failed != 0) {
             System.exit(1);
